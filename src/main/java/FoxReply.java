@@ -87,10 +87,10 @@ public final class FoxReply {
 
     public int hunt() {
         int fault = huntReader.read(tapeLength);
+        tapeLength = 0;
         if (fault != 0) {
             return -2 - fault;
         }
-        tapeLength = 0;
         world.begun.copyFrom(huntReader.told);
         world.now.copyFrom(huntReader.told);
         world.notes.clear();
@@ -103,10 +103,10 @@ public final class FoxReply {
             return NONE;
         }
         int fault = ruleReader.read(tapeLength);
+        tapeLength = 0;
         if (fault != 0) {
             return -2 - fault;
         }
-        tapeLength = 0;
         rules[ruleCount] = ruleReader.made();
         ruleCount++;
         return ruleCount - 1;

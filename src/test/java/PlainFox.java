@@ -469,9 +469,10 @@ final class PlainFox {
     }
 
     int hunt() {
+        String text = tape.toString();
+        tape.setLength(0);
         try {
-            State s = new Reader(tape.toString()).hunt();
-            tape.setLength(0);
+            State s = new Reader(text).hunt();
             begun = s;
             now = s.copy();
             notes.clear();
@@ -486,9 +487,10 @@ final class PlainFox {
         if (rules.size() == 6) {
             return -1;
         }
+        String text = tape.toString();
+        tape.setLength(0);
         try {
-            rules.add(new Reader(tape.toString()).rule());
-            tape.setLength(0);
+            rules.add(new Reader(text).rule());
             return rules.size() - 1;
         } catch (Fault f) {
             return -2 - f.code;
