@@ -78,6 +78,10 @@ public final class AskPromiseTest {
         due("leastPace(1, 61)", fox.leastPace(1, 61), -1);
         due("leastPace(3, 1)", fox.leastPace(3, 1), -1);
         due("leastPace(-1, 1)", fox.leastPace(-1, 1), -1);
+        due("by the greatest", Due.hunted("fox 10 3 0;rider 10 1;rider 2 1;gate 2").leastPace(0, 1), 9);
+        FoxReply second = Due.hunted("fox 10 3 0;rider 5 1;gate 5");
+        due("ahead of the gate", second.leastPace(0, 1), 1);
+        due("to the gate", second.leastPace(0, 2), -2);
         due("alone: by none", Due.hunted("fox 2 1 0;rider 0 9;gate 0").leastPace(0, 60), -2);
         due("no gate", Due.hunted("fox 2 1 0;rider 0 9").leastPace(0, 60), 1);
     }
@@ -103,7 +107,14 @@ public final class AskPromiseTest {
         due("to ground, then it", fox.row(1, 2, 0), 1);
         due("to ground: rides none", fox.row(1, 2, 1), 94);
         due("to ground: the first row", fox.row(1, 2, 2), 0);
-        // Gates at each second step: 6 fields are made good in the last of these steps, the first is 0.
+        // Rider 1 flees who is level with them: 0 and 5 would do as well as 1 and 0, but go farther.
+        FoxReply shy = Due.hunted("fox 10 1 0;rider 10 9;rider 10 9;gate 2");
+        Due.rule(shy, "ride 5 if step = 1 and level = 1");
+        shy.force(0);
+        due("shy 0", shy.row(0, 2, 0), 0);
+        due("shy 1", shy.row(0, 2, 1), 91);
+        due("shy 2", shy.row(0, 2, 2), 1);
+        // The gate comes in the third step: what must be made good is ridden last, so the first is 0.
         FoxReply late = Due.hunted("fox 20 2 0;rider 9 1;rider 12 9;gate 6");
         due("late 0", late.row(1, 3, 0), 0);
         due("late 1", late.row(1, 3, 1), 95);
@@ -123,6 +134,10 @@ public final class AskPromiseTest {
         FoxReply none = Due.hunted("fox 10 3 2;rider 5 4");
         due("no gates", none.shut(60, 0), -1);
         due("no gates", none.shut(60, 1), 0);
+        FoxReply round = Due.hunted("fox 10 3 0;rider 5 4;gate 0");
+        due("ahead of field 0", round.shut(3, 0), -1);
+        due("field 0", round.shut(4, 0), 0);
+        due("field 0", round.shut(4, 1), 0);
         FoxReply alike = Due.hunted("fox 10 1 0;rider 5 4;gate 5;gate 3");
         due("of several nothing", alike.shut(2, 0), -1);
         due("of several the least", alike.shut(5, 0), 3);
@@ -135,6 +150,10 @@ public final class AskPromiseTest {
         due("help(5, 1)", fox.help(5, 1), 1);
         due("help(4, 0)", fox.help(4, 0), 0);
         due("help(4, 1)", fox.help(4, 1), 0);
+        FoxReply turned = Due.hunted("fox 10 2 0;rider 3 1;rider 30 1;gate 2;gate 0");
+        due("turned: how many", turned.help(5, 0), 1);
+        due("turned: who", turned.help(5, 1), 2);
+        due("turned: help(1, 0)", turned.help(1, 0), 0);
         due("help(0, 0)", fox.help(0, 0), -1);
         due("help(61, 0)", fox.help(61, 0), -1);
         due("help(1, 2)", fox.help(1, 2), -1);
@@ -248,6 +267,9 @@ public final class AskPromiseTest {
         race.gate(2);
         due("without a gate", race.rests(0, 1, 20, 0), 1);
         due("without a gate", race.rests(0, 1, 20, 2), 1);
+        FoxReply later = Due.hunted("fox 10 3 0;rider 5 4;rider 20 4;rider 18 1;gate 5");
+        due("ahead of the gate", later.rests(0, 1, 1, 2), 1);
+        due("to the gate", later.rests(0, 1, 2, 2), 3);
         due("rests(0, 0, ..)", race.rests(0, 0, 1, 0), -1);
         due("rests(0, 2, ..)", race.rests(0, 2, 1, 0), -1);
         due("rests(-1, 0, ..)", race.rests(-1, 0, 1, 0), -1);
@@ -270,6 +292,9 @@ public final class AskPromiseTest {
         fox.gate(1);
         due("of several at none", fox.open(0, 1, 0), -1);
         due("of several at none", fox.open(0, 1, 1), 1);
+        FoxReply two = Due.hunted("fox 2 1 0;rider 5 4;gate 1");
+        due("field 0", two.open(0, 2, 0), 0);
+        due("field 0", two.open(0, 2, 1), 2);
         FoxReply three = Due.hunted(THREE);
         due("never last", three.open(0, 3, 0), -1);
         due("never last", three.open(0, 3, 1), 0);

@@ -120,6 +120,7 @@ public final class ImagePromiseTest {
         // In ten steps the fox comes 25 fields far and five times to a gate.
         due("mornings(1, 10, 0, 0)", fox.mornings(1, 10, 0, 0), 5);
         due("mornings(1, 10, 0, 1)", fox.mornings(1, 10, 0, 1), 125);
+        due("mornings(1, 1, 0, 0)", fox.mornings(1, 1, 0, 0), 1);
         due("mornings(2, 10, 0, 0)", fox.mornings(2, 10, 0, 0), 10);
         due("mornings(10, 10, 100, 1)", fox.mornings(10, 10, 100, 1), 1250);
         due("mornings(0, 1, 0, 0)", fox.mornings(0, 1, 0, 0), -1);

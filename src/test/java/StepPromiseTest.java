@@ -229,6 +229,12 @@ public final class StepPromiseTest {
         due("hold of one to ground", fox.hold(1, 1), -1);
         due("rider(1, 0)", fox.rider(1, 0), 3);
         due("hold(0, 4)", fox.hold(0, 4), 0);
+        FoxReply one = Due.hunted("fox 2 1 1;rider 9 1;gate 0;gate 1");
+        one.step();
+        due("to ground for one step", one.count(9), 1);
+        due("hold of one to ground for one step", one.hold(0, 1), -1);
+        due("dig", one.dig(0), 1);
+        due("hold behind dig", one.hold(0, 1), 91);
     }
 
     private static void dig() {
