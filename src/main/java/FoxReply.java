@@ -1011,6 +1011,9 @@ public final class FoxReply {
 
     /** All rows of fields that one RIDER can ride, each begun with the least. */
     private static final class RowSearch {
+        /** More than any row brings. */
+        private static final int BEYOND_ALL = 1000000;
+
         private final Stepper stepper;
         private final Chase[] behind = new Chase[MOST_ROW + 1];
         private Rule rule;
@@ -1038,8 +1041,8 @@ public final class FoxReply {
             rider = who;
             steps = Math.min(n, MOST_ROW);
             timesBefore = now.was[who];
-            bestTimes = Integer.MAX_VALUE;
-            bestRun = Integer.MAX_VALUE;
+            bestTimes = BEYOND_ALL;
+            bestRun = BEYOND_ALL;
             bestFirst = 0;
             behind[0].copyFrom(now);
             stepper.rowRider = who;

@@ -2,8 +2,11 @@ import java.util.Random;
 
 /** Drawn runs of calls, each answer held against PlainFox. The draws are the same in every run. */
 public final class FuzzTest {
-    private static final int RUNS = Integer.getInteger("fuzz.runs", 600);
+    private static final int RUNS = Integer.getInteger("fuzz.runs", 2000);
+    /** An object is used for so many calls at most. */
     private static final int CALLS = 512;
+    private static final int CALLS_OF_COMPARE = 128;
+    private static final int MOST_CALLS_OF_TEXT = 24;
     private static final String[] WORDS = {"rider", "pace", "gap", "behind", "level", "out", "was",
         "gate", "foxpace", "law", "step"};
     private static final String[] SIGNS = {"<", "<=", "=", ">=", ">"};
@@ -16,6 +19,7 @@ public final class FuzzTest {
     private FoxReply fox;
     private PlainFox plain;
     private final StringBuilder history = new StringBuilder();
+    private int calls;
 
     private FuzzTest(long seed) {
         random = new Random(seed);
@@ -147,13 +151,15 @@ public final class FuzzTest {
     // ---- calls
 
     private void check(String call, int got, int want) {
+        calls++;
         history.append(call).append(" ");
         due.due(call, got, want);
     }
 
     private void tell(String text) {
         check("end(0)", fox.end(0), plain.end(0));
-        for (int i = 0; i < text.length(); i += 20) {
+        // One feed more than the TAPE takes is refused already.
+        for (int i = 0; i < text.length() && i <= 400; i += 20) {
             int[] v = Due.twenty(text, i);
             check("feed", fox.feed(v[0], v[1], v[2], v[3], v[4]), plain.feed(v[0], v[1], v[2], v[3], v[4]));
         }
@@ -185,13 +191,18 @@ public final class FuzzTest {
             tellRule();
         }
         check("force", fox.force(many - 2), plain.force(many - 2));
-        anyCalls(CALLS / 4);
+        anyCalls(CALLS);
+        compareAll();
+        if (calls > CALLS) {
+            due.due("calls of one object", calls, CALLS);
+        }
     }
 
+    /** Till there is room for a text of some calls and for comparing all, no more. */
     private void anyCalls(int many) {
-        for (int i = 0; i < many && due.failed == 0; i++) {
+        for (int i = 0; i < many && due.failed == 0 && calls < CALLS - CALLS_OF_COMPARE - MOST_CALLS_OF_TEXT; i++) {
             anyCall();
-            if (once(8)) {
+            if (once(150) && calls < CALLS - 2 * CALLS_OF_COMPARE - MOST_CALLS_OF_TEXT) {
                 compareAll();
             }
         }
