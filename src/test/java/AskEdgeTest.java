@@ -377,6 +377,15 @@ public final class AskEdgeTest {
         E.due("turned: out of reach: how many", nine.rests(1, 0, 1, 0), 1);
         E.due("turned: out of reach", nine.rests(1, 0, 1, 1), 1);
         E.due("no gate, 1 and 1", late.rests(0, 1, 1, 0), 1);
+        // By 1 rider 0 holds rider 1 fast, and both are IT; by 3 neither is, so rider 1 stays by 1.
+        FoxReply fast = E.ruled("fox 20 1 2;rider 10 1;rider 9 1;rider 8 1;rider 8 1;gate 2;gate 3",
+                "ride pace if rider = 0 and step = 0;ride pace if rider = 1 and step = 1 and level = 0");
+        E.due("by what the other has: how many", fast.rests(0, 1, 3, 0), 1);
+        E.due("by what the other has: the one", fast.rests(0, 1, 3, 1), 3);
+        E.due("by what the other has: the other", fast.rests(0, 1, 3, 2), 1);
+        E.due("turned: how many", fast.rests(1, 0, 3, 0), 1);
+        E.due("turned: the one", fast.rests(1, 0, 3, 1), 1);
+        E.due("turned: the other", fast.rests(1, 0, 3, 2), 3);
 
         E.sentence("the first (by the first one, then the second one)");
         // Both are IT if they ride alike and stay level; of 1 and 3, and 3 and 1, nobody would go.
@@ -412,6 +421,9 @@ public final class AskEdgeTest {
         E.due("the next one", fox.open(0, 1, 0), 41);
         E.due("the least of nineteen", fox.open(0, 19, 0), 41);
         E.due("round to field 0", fox.open(0, 20, 0), 0);
+        E.due("once round", fox.open(0, 60, 0), 0);
+        // By nines to 58, and on to field 7.
+        E.due("over the end of the round", Due.hunted("fox 60 9 0;rider 0 1").open(0, 3, 0), 0);
         // One more gate within the LAW of the one there is does nothing.
         FoxReply ground = Due.hunted("fox 60 1 9;rider 0 1;gate 41");
         E.due("at none", ground.open(0, 9, 0), -1);

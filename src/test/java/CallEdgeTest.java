@@ -822,6 +822,9 @@ public final class CallEdgeTest {
         E.due("ruled(0)", fox.ruled(0), 1);
         E.due("look(1, 0)", fox.look(1, 0), 0);
         E.due("mornings(1, 6, 100, 0)", fox.mornings(1, 6, 100, 0), 5);
+        Due.rule(fox, "ride pace");
+        E.due("look(1, 0): all alike", fox.look(1, 0), 0);
+        E.due("look(1, 1): all alike", fox.look(1, 1), 2);
         E.due("spur(5, 1)", fox.spur(5, 1), 9);
         E.due("hold(5, 1)", fox.hold(5, 1), 99);
         E.due("dig(4)", fox.dig(4), 9);

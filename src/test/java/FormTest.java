@@ -22,6 +22,8 @@ public final class FormTest {
         "Exact\\b", "\\bdouble\\b", "\\bfloat\\b", "\\bstatic\\s*\\{", "\\bpackage\\b", "\\bvar\\b",
         "\\bclass\\b[^{]*\\bextends\\b", "\"\\s*\\+", "\\+\\s*\""};
     private static final int MOST_LINES = 60;
+    private static final Set<String> LIBRARY = Set.of("Arrays.copyOf", "Arrays.fill", "Integer.bitCount",
+            "Long.bitCount", "Math.max", "Math.min", "System.arraycopy");
 
     public static void main(String[] args) throws IOException {
         String source = Files.readString(SOURCE);
@@ -111,6 +113,10 @@ public final class FormTest {
         while (imports.find()) {
             is(imports.group(1), List.of("java.util.Arrays", "java.util.ArrayList", "java.util.List")
                     .contains(imports.group(1)));
+        }
+        Matcher library = Pattern.compile("\\b(Arrays|Integer|Long|Math|System|String|List)\\.(\\w+)").matcher(code);
+        while (library.find()) {
+            is(library.group() + " is of the library", LIBRARY.contains(library.group()));
         }
         for (int i = 0; i < source.length(); i++) {
             if (source.charAt(i) > 127) {

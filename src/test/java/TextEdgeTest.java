@@ -264,6 +264,8 @@ public final class TextEdgeTest {
         E.ruleFault(IF + "1 ^!= 1", 0);
         // Whatever joins them or turns them round.
         E.rides(hunt, "ride 1 if not rider<1", 11);
+        E.rides(hunt, "ride 1 if not rider<2", 1);
+        E.rides(hunt, "ride 1 if not rider>=2", 110);
         E.rides(hunt, "ride 1 if not rider<=1", 1);
         E.rides(hunt, "ride 1 if not rider=1", 101);
         E.rides(hunt, "ride 1 if not rider>=1", 100);
@@ -299,6 +301,11 @@ public final class TextEdgeTest {
             E.rides(hunt, "ride 1 if 3>=" + sum, 1);
             E.rides(hunt, "ride 1 if 4>" + sum, 1);
             E.rides(hunt, "ride 1 if " + sum + "=3 and not " + sum + ">3", 1);
+            E.rides(hunt, "ride 1 if 4=" + sum, 0);
+            E.rides(hunt, "ride 1 if 3<" + sum, 0);
+            E.rides(hunt, "ride 1 if 4<=" + sum, 0);
+            E.rides(hunt, "ride 1 if 2>=" + sum, 0);
+            E.rides(hunt, "ride 1 if 3>" + sum, 0);
         }
 
         E.sentence("TERM: VALUE { (* or / or %) VALUE }");
