@@ -183,11 +183,11 @@ public final class FuzzTest {
         if (once(10)) {
             anyCalls(10);
         }
-        for (int i = 0; i < 3; i++) {
+        for (int i = 0; i < 3 && hasRoom(0); i++) {
             tellHunt();
         }
         int many = upTo(5);
-        for (int i = 0; i < many; i++) {
+        for (int i = 0; i < many && hasRoom(0); i++) {
             tellRule();
         }
         check("force", fox.force(many - 2), plain.force(many - 2));
@@ -198,11 +198,15 @@ public final class FuzzTest {
         }
     }
 
-    /** Till there is room for a text of some calls and for comparing all, no more. */
+    /** Whether there is room for so many calls, a text more, and for comparing all at the end. */
+    private boolean hasRoom(int more) {
+        return calls + more + MOST_CALLS_OF_TEXT + CALLS_OF_COMPARE < CALLS;
+    }
+
     private void anyCalls(int many) {
-        for (int i = 0; i < many && due.failed == 0 && calls < CALLS - CALLS_OF_COMPARE - MOST_CALLS_OF_TEXT; i++) {
+        for (int i = 0; i < many && due.failed == 0 && hasRoom(0); i++) {
             anyCall();
-            if (once(150) && calls < CALLS - 2 * CALLS_OF_COMPARE - MOST_CALLS_OF_TEXT) {
+            if (once(150) && hasRoom(CALLS_OF_COMPARE)) {
                 compareAll();
             }
         }
