@@ -154,7 +154,7 @@ public final class AskEdgeTest {
         E.due("4 STEPS: how often", four.row(0, 4, 0), 4);
         E.due("4 STEPS: how far", four.row(0, 4, 1), 91);
 
-        E.sentence("that they ride in these in place of what the RULE says");
+        E.sentence("that they ride in these in place of what the RULE says (others by it;");
         FoxReply still = E.ruled("fox 50 1 0;rider 10 9;rider 10 9;gate 1", "ride 3 if rider = 0;ride 0");
         E.due("how often", still.row(1, 1, 0), 0);
         E.due("others by it: how far", still.row(1, 1, 1), 94);
@@ -175,7 +175,7 @@ public final class AskEdgeTest {
     }
 
     private static void rowNumbers() {
-        E.sentence("those in which they are IT least often; of these the one by which they have run least; of several the first (least numbers first)");
+        E.sentence("those in which they are IT least often; of these the one by which they have run least; of several the first (least numbers first): how often; how far; the first of it.");
         // Rider 1 stays at 91, two STEPS of 9 and two fields away; both STEPS end at a gate.
         FoxReply never = E.ruled("fox 50 1 0;rider 29 9;rider 9 9;gate 1;gate 2", "ride 0");
         E.due("twenty are enough: how often", never.row(0, 2, 0), 2);
@@ -387,6 +387,16 @@ public final class AskEdgeTest {
         E.due("turned: the one", fast.rests(1, 0, 3, 1), 1);
         E.due("turned: the other", fast.rests(1, 0, 3, 2), 3);
 
+        E.sentence("from now on, all else as it is: each has 5 less");
+        // Rider 2 is LAST by PACE 1; by 9 rider 1 would have to come level again.
+        FoxReply third = Due.hunted("fox 60 1 0;rider 0 4;rider 8 4;rider 9 1;gate 41");
+        E.due("by theirs, 1", third.rests(0, 1, 1, 2), 1);
+        third.spur(2, 9);
+        E.due("by theirs, 9", third.rests(0, 1, 1, 2), 9);
+        third.gate(41);
+        E.due("no gate", third.rests(0, 1, 1, 2), 1);
+        E.due("their PACES stay", third.rider(0, 1) * 100 + third.rider(1, 1) * 10 + third.rider(2, 1), 449);
+
         E.sentence("the first (by the first one, then the second one)");
         // Both are IT if they ride alike and stay level; of 1 and 3, and 3 and 1, nobody would go.
         FoxReply two = E.ruled("fox 20 1 2;rider 10 1;rider 10 1;rider 5 1;rider 5 1;gate 6;gate 7",
@@ -593,7 +603,7 @@ public final class AskEdgeTest {
             E.due("x stays " + x, drawn.count(13), x);
         }
 
-        E.sentence("is it below p (0 to 100), and are there RIDERS, a DRAW mod how many: that one, if not to ground, has run 2 fields less, 0 at least");
+        E.sentence("ahead of each a DRAW mod 100: is it below p (0 to 100), and are there RIDERS, a DRAW mod how many: that one, if not to ground, has run 2 fields less, 0 at least");
         E.due("p -1", far.mornings(1, 1, -1, 1), -1);
         E.due("p 101", far.mornings(1, 1, 101, 1), -1);
         E.due("p 0", far.mornings(1, 1, 0, 1), 109);

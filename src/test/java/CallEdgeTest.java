@@ -76,7 +76,7 @@ public final class CallEdgeTest {
         Edges.steps(fox, 509);
         E.due("the 512th", fox.count(7), 509);
 
-        E.sentence("`NONE = -1`: None.");
+        E.sentence("The constants: `NONE = -1`: None.");
         E.due("NONE", FoxReply.NONE, -1);
     }
 
@@ -727,7 +727,14 @@ public final class CallEdgeTest {
     }
 
     private static void count() {
-        E.sentence("12: ACTS that can be UNDONE, 13: x, 14: bytes of the TAPE. NONE for others.");
+        E.sentence("What 0: ROUND, 1: PACE of the fox, 2: LAW, 3: RIDERS, 4: gates, how many, 5: RULES, 6: the RULE IN FORCE (NONE), 7: STEP, 8: how far the fox has run");
+        FoxReply told = Due.hunted("fox 7 5 9;rider 3 2;rider 4 2;gate 6;gate 0;gate 6");
+        int[] first = {7, 5, 9, 2, 2, 0, -1, 0, 100};
+        for (int what = 0; what <= 8; what++) {
+            E.due("count(" + what + ") as told", told.count(what), first[what]);
+        }
+
+        E.sentence("11: NOTES, 12: ACTS that can be UNDONE, 13: x, 14: bytes of the TAPE. NONE for others.");
         FoxReply fox = busy();
         int[] want = {10, 3, 2, 3, 3, 2, 1, 1, 102, 2, 1, 1, 2, 4321, 20};
         for (int what = 0; what <= 14; what++) {

@@ -25,6 +25,7 @@ public final class StepEdgeTest {
         neverFarther();
         toGround();
         foxRuns();
+        gateReached();
         lastIsIt();
         lawSteps();
         runsOn();
@@ -165,7 +166,7 @@ public final class StepEdgeTest {
     }
 
     private static void asItBegins() {
-        E.sentence("(1) All RIDERS who are not to ground, by how all is as it begins, ride");
+        E.sentence("A STEP: (1) All RIDERS who are not to ground, by how all is as it begins, ride");
         // Rider 0 passes rider 1 in this STEP, and the other way round.
         E.rides("fox 20 3 2;rider 50 9;rider 45 9", "ride 9 if rider = 0;ride behind", 91);
         E.rides("fox 20 3 2;rider 45 9;rider 50 9", "ride 9 if rider = 1;ride behind", 19);
@@ -265,6 +266,22 @@ public final class StepEdgeTest {
         E.due("to 118", over.step(), -1);
         E.due("to 121", over.step(), 0);
         E.due("count(8)", over.count(8), 121);
+    }
+
+    private static void gateReached() {
+        E.sentence("Is he at a gate then, he turns");
+        FoxReply fox = Due.hunted("fox 50 4 0;rider 9 1;gate 5;gate 8");
+        E.due("a field short", fox.step(), -1);
+        E.due("nobody was it", fox.count(10), 0);
+        E.due("to it", fox.step(), 0);
+        E.due("was it", fox.count(10), 1);
+        E.due("to the next, not beyond", fox.step(), 0);
+        E.due("there", fox.count(8), 108);
+        // Only where he is behind (3) counts: a gate that he stands at as a STEP begins is left.
+        E.due("on from there", fox.step(), -1);
+        fox.gate(12);
+        E.due("a gate made where he stands", fox.step(), -1);
+        E.due("was it twice", fox.count(10), 2);
     }
 
     private static void lastIsIt() {
