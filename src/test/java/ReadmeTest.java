@@ -16,7 +16,7 @@ public final class ReadmeTest {
         examples(readme);
         for (Method method : FoxReply.class.getDeclaredMethods()) {
             if (Modifier.isPublic(method.getModifiers())) {
-                boolean isNamed = Pattern.compile("\\b" + method.getName() + "\\b").matcher(readme).find();
+                boolean isNamed = Pattern.compile("\\| `" + method.getName() + "\\(").matcher(readme).find();
                 DUE.due(method.getName() + " is named", isNamed ? 1 : 0, 1);
             }
         }
